@@ -580,7 +580,7 @@ public final class ThirdLetter {
         }
     }
 
-    /** THE SERMON, and how much of it is SAID. */
+    /** THE SERMON, and how much of it is SAID; of its WORDS no call asks more than how many and the last. */
     private static final class Sermon {
         private final int[] letters = new int[SERMON_LETTERS];
         private int letterTotal;
@@ -588,7 +588,6 @@ public final class ThirdLetter {
         private int lastWord = NONE;
         private int said;
 
-        // Of its WORDS only the last and their number are asked for, so the others are not held.
         void copyFrom(Sermon other) {
             System.arraycopy(other.letters, 0, letters, 0, letters.length);
             letterTotal = other.letterTotal;
@@ -625,9 +624,10 @@ public final class ThirdLetter {
         }
 
         void append(int word, WordList list) {
-            if (!hasRoom(list.lengthOf(word))) return;
-            for (int k = 0; k < list.lengthOf(word); k++) letters[letterTotal + k] = list.letterOf(word, k);
-            letterTotal += list.lengthOf(word);
+            int more = list.lengthOf(word);
+            if (!hasRoom(more)) return;
+            for (int k = 0; k < more; k++) letters[letterTotal + k] = list.letterOf(word, k);
+            letterTotal += more;
             wordTotal++;
             lastWord = word;
         }
@@ -731,8 +731,9 @@ public final class ThirdLetter {
         }
 
         boolean isFitting(WordList list, int word, int from) {
-            if (list.lengthOf(word) > length - from) return false;
-            for (int k = 0; k < list.lengthOf(word); k++) {
+            int wanted = list.lengthOf(word);
+            if (wanted > length - from) return false;
+            for (int k = 0; k < wanted; k++) {
                 int letter = at(from + k);
                 if (letter != HOLE && letter != list.letterOf(word, k)) return false;
             }
@@ -797,13 +798,15 @@ public final class ThirdLetter {
         private void stepFrom(int used, int place) {
             int choices = choicesAt(used, place);
             for (int word = 0; choices >> word != 0 && word < MOST_WORDS; word++) {
+                if ((choices >> word & 1) == 0) continue;
                 int next = place + list.lengthOf(word);
-                if ((choices >> word & 1) != 0 && next <= length) reached[used + 1][next] |= 1 << list.sortOf(word);
+                if (next <= length) reached[used + 1][next] |= 1 << list.sortOf(word);
             }
         }
 
         /** Words that can come next behind any of the sorts that can stand ahead of a place. */
         private int choicesAt(int used, int place) {
+            if (reached[used][place] == 0) return 0;
             int choices = 0;
             for (int ahead = 0; ahead < AHEADS; ahead++) {
                 if (isReached(used, place, ahead)) choices |= followers[ahead];
@@ -817,6 +820,7 @@ public final class ThirdLetter {
 
         private void findWays(int used) {
             for (int place = 0; place <= length; place++) {
+                if (reached[used][place] == 0) continue;
                 for (int ahead = 0; ahead < AHEADS; ahead++) {
                     if (!isReached(used, place, ahead)) continue;
                     ways[used][AHEADS * place + ahead] = sumOfWays(used, place, ahead);

@@ -116,7 +116,7 @@ public final class PromiseTests {
         for (String text : tooSoon) faults(x, text, text.length());
         String[] tooMuch = {"order 3 3", "word 0 a b", "not 0 1 2", "free x", "away 0 0", "late 0 1 1"};
         for (String text : tooMuch) faults(x, text, text.length() - 1);
-        String[] atOnce = {"orders 3", "orde 3", "Free", "3", ";", ";free", "\tfree", "x", "words 0 a", "\u00e9", "\0"};
+        String[] atOnce = {"orders 3", "orde 3", "Free", "3", ";", ";free", "\tfree", "x", "words 0 a", "\u00e9", "\0", "bree", "xate 0 1"};
         for (String text : atOnce) faults(x, text, 0);
         faults(x, "  ;", 2);
         faults(x, "free;;free", 5);
@@ -257,6 +257,8 @@ public final class PromiseTests {
         due("in their order", x.count(7), 511 - (1 << 6));
         Checks.tell(x, "late 1 1;order 2;late 0 2;late 0 1");
         voicesAre(x, new int[][] {{0, 0, 1}, {0, 0, 0}});
+        Checks.tell(x, "order 3;away 0;away 2;hoarse 0;hoarse 2;late 2 1;order 3");
+        voicesAre(x, new int[3][3]);
     }
 
     private static void voicesAre(ThirdLetter x, int[][] states) {
@@ -350,8 +352,10 @@ public final class PromiseTests {
         due("said", x.count(4), 0);
         due("sound stays", x.count(5), 2);
         due("again", x.amen(), 0);
-        due("nothing is ahead", x.preach(0), 3);
         due("what is kept stays", x.back(1), 2);
+        Checks.preachAll(x, 0);
+        due("three", x.amen(), 3);
+        due("nothing is ahead", x.preach(0), 3);
     }
 
     private static void p10Say() {
@@ -423,6 +427,11 @@ public final class PromiseTests {
         due("letters", x.tally(1), 5);
         x.preach(0);
         due("more was preached", x.tally(2), 1);
+        Checks.tell(x, "here 1;away 0");
+        x.preach(0);
+        x.say(1);
+        due("a hole at the first", x.tally(0), 1);
+        due("no letter", x.tally(1), 0);
     }
 
     private static void p13Sound() {
@@ -512,6 +521,9 @@ public final class PromiseTests {
         reads(x, "bb", 0, 0);
         // "ab", "a b": the word b may not stand behind a word b, nor behind ab
         reads(x, "abab", 4, 7, 0, 0);
+        Checks.tell(x, "free;word 0 b;word 1 a;word 2 ab;not 0 1;not 0 0;not 1 2");
+        // b and ab may be; b, a and b may not
+        reads(x, "bab", 1, 5, 0, 2);
         Checks.tell(x, "free;word 0 b;word 0 ba;word 1 a");
         reads(x, "ba", 2, 7, 0, 2);
         reads(x, "ba.", 4, 7, 0, 2, 0);
@@ -608,6 +620,9 @@ public final class PromiseTests {
         Checks.tell(x, "free;word 0 a;word 0 b;word 0 c;word 0 d;word 0 e;word 0 f;word 0 g;word 0 h");
         Checks.tell(x, "word 0 i;word 0 j;word 0 k;word 0 lk");
         due("20 times a, and b", x.twins(0, 1), 230);
+        Checks.tell(x, "free;word 0 ab;word 0 b");
+        due("the first word has one", x.twins(0, 1), 1);
+        due("it counts", x.twins(0, 0), 1);
     }
 
     private static void learns(ThirdLetter x, int voice, int... parts) {
@@ -729,7 +744,7 @@ public final class PromiseTests {
         x.amen();
         due("the other", x.back(1), NOT);
         Checks.soundAs(x, "zz");
-        x.preach(1);
+        x.preach(0);
         due("back", x.back(0), 4);
         hears(x, "abcd");
         due("words", x.count(2), 2);
