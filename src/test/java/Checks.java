@@ -81,7 +81,11 @@ final class Checks {
     /** What is heard of the letters that are said, as a row of small letters and points. */
     static String heardRow(ThirdLetter x) {
         StringBuilder row = new StringBuilder();
-        for (int i = 0; x.heard(i) >= 0; i++) row.append(x.heard(i) == 0 ? '.' : (char) ('a' + x.heard(i) - 1));
+        int heard = x.heard(0);
+        while (heard >= 0 && row.length() < 60) {
+            row.append(heard == 0 ? '.' : (char) ('a' + heard - 1));
+            heard = x.heard(row.length());
+        }
         return row.toString();
     }
 }

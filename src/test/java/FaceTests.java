@@ -21,8 +21,9 @@ public final class FaceTests {
         "hush()", "fits(int,int)", "readings(int)", "came(int)", "alone(int,int)", "twins(int,int)",
         "learnt(int,int,int)", "seats(int)", "bears(int)", "keep(int)", "back(int)", "count(int)");
     private static final List<String> FORBIDDEN = List.of("throw", "throws", "try", "catch", "finally", "synchronized",
-        "assert", "import", "package", "double", "float", "Exception", "Error", "Thread", "Random", "System.currentTimeMillis",
-        "System.nanoTime", "->", "::", "protected", "volatile", "native", "hashCode", "toString");
+        "assert", "import", "package", "double", "float", "Exception", "Error", "Thread", "Random",
+        "System.currentTimeMillis", "System.nanoTime", "->", "::",
+        "protected", "volatile", "native", "hashCode", "toString");
 
     private static final Checks checks = new Checks("face");
 
@@ -121,7 +122,8 @@ public final class FaceTests {
     private static void objectsAreMadeOnce(String code) {
         checks.about("room");
         for (String line : code.split("\n")) {
-            if (line.matches(".*\\bnew\\b.*")) checks.holds("made once: " + line, line.matches(" +(private )?final .* = new .*"));
+            if (!line.matches(".*\\bnew\\b.*")) continue;
+            checks.holds("made once: " + line, line.matches(" +(private )?final .* = new .*"));
         }
     }
 }

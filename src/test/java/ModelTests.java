@@ -5,6 +5,8 @@ import java.util.Random;
 public final class ModelTests {
     private static final int RUNS = 400;
     private static final int CALLS = 512;
+    /** The most calls that one draw makes. */
+    private static final int LONGEST = 44;
     private static final int[] WILD = {Integer.MIN_VALUE, -1000, -6, -5, -4, -3, -2, -1, 6, 7, 8, 9, 12, 16, 20, 31, 32,
         60, 61, 100, 1 << 20, Integer.MAX_VALUE};
 
@@ -32,7 +34,7 @@ public final class ModelTests {
 
     private void run() {
         tellText();
-        while (calls < CALLS - 40) {
+        while (calls < CALLS - LONGEST) {
             int draw = random.nextInt(100);
             if (draw < 4) tellText();
             else if (draw < 6) preachMuch();
@@ -65,7 +67,7 @@ public final class ModelTests {
         }
         due("fault()", x.fault(), model.fault());
         due("order()", x.order(), model.order());
-        if (x.count(6) > 0 && random.nextInt(4) > 0) due("erase()", x.erase(), model.erase());
+        if (model.count(6) > 0 && random.nextInt(4) > 0) due("erase()", x.erase(), model.erase());
     }
 
     private String drawnText() {
@@ -80,7 +82,7 @@ public final class ModelTests {
     }
 
     private String drawnLine() {
-        int voice = random.nextInt(random.nextInt(6) == 0 ? 5 : Math.max(1, x.count(0)));
+        int voice = random.nextInt(random.nextInt(6) == 0 ? 5 : Math.max(1, model.count(0)));
         switch (random.nextInt(24)) {
             case 0: return "order " + (random.nextInt(12) == 0 ? random.nextInt(8) : 1 + random.nextInt(5));
             case 1: case 2: return "not " + random.nextInt(3) + " " + random.nextInt(3);
@@ -114,8 +116,8 @@ public final class ModelTests {
 
     private void preachMuch() {
         due("amen()", x.amen(), model.amen());
-        for (int i = 0; i < 7 && x.count(1) > 0; i++) {
-            int word = random.nextInt(x.count(1));
+        for (int i = 0; i < 7 && model.count(1) > 0; i++) {
+            int word = random.nextInt(model.count(1));
             due("preach(" + word + ")", x.preach(word), model.preach(word));
         }
         int n = 1 + random.nextInt(60);
@@ -129,10 +131,10 @@ public final class ModelTests {
     private void soundMuch() {
         due("hush()", x.hush(), model.hush());
         int words = 1 + random.nextInt(3);
-        for (int i = 0; i < words && x.count(1) > 0; i++) {
-            int word = random.nextInt(x.count(1));
-            for (int k = 0; x.word(word, 10 + k) > 0; k++) {
-                int letter = random.nextInt(4) == 0 ? 0 : x.word(word, 10 + k);
+        for (int i = 0; i < words && model.count(1) > 0; i++) {
+            int word = random.nextInt(model.count(1));
+            for (int k = 0; model.word(word, 10 + k) > 0; k++) {
+                int letter = random.nextInt(4) == 0 ? 0 : model.word(word, 10 + k);
                 due("sound(" + letter + ")", x.sound(letter), model.sound(letter));
                 if (k == 9) break;
             }
@@ -141,7 +143,9 @@ public final class ModelTests {
     }
 
     private void askForetold() {
-        for (int what : new int[] {0, 1, 10, 11, 12}) due("readings(" + what + ")", x.readings(what), model.readings(what));
+        for (int what : new int[] {0, 1, 10, 11, 12}) {
+            due("readings(" + what + ")", x.readings(what), model.readings(what));
+        }
         for (int what = 0; what < 2; what++) {
             due("came(" + what + ")", x.came(what), model.came(what));
             due("bears(" + what + ")", x.bears(what), model.bears(what));

