@@ -6,6 +6,7 @@ import java.lang.reflect.Method;
 import java.lang.reflect.Modifier;
 import java.nio.file.Files;
 import java.nio.file.Path;
+import java.util.ArrayList;
 import java.util.Arrays;
 import java.util.List;
 import java.util.Set;
@@ -36,6 +37,8 @@ public final class FaceTests {
         nestedClasses();
         String code = withoutComments(Files.readString(SOURCE));
         forbiddenWords(code);
+        methodsAreShort(code);
+        fieldsAreFew();
         objectsAreMadeOnce(code);
         checks.end();
     }
@@ -116,6 +119,33 @@ public final class FaceTests {
         }
         for (String line : code.split("\n")) checks.holds("120 signs at most: " + line, line.length() <= 120);
         checks.holds("signs 10, 32 to 126 alone", code.matches("[\\n -~]*"));
+    }
+
+    /** A method ends with the first line that is its brace alone, as far in as the line it begins with. */
+    private static void methodsAreShort(String code) {
+        checks.about("methods stay short");
+        String[] lines = code.split("\n");
+        int methods = 0;
+        for (int i = 0; i < lines.length; i++) {
+            Matcher m = Pattern.compile("( +)[\\w\\[\\] ]+\\([^)]*\\) \\{").matcher(lines[i]);
+            if (!m.matches() || lines[i].matches(" +(if|for|while|switch) .*")) continue;
+            int end = i;
+            while (end < lines.length && !lines[end].equals(m.group(1) + "}")) end++;
+            checks.holds("sixty lines at most: " + lines[i].trim(), end - i <= 60);
+            methods++;
+        }
+        checks.holds("methods were found", methods > 100);
+    }
+
+    private static void fieldsAreFew() {
+        checks.about("some twenty fields beside constants");
+        List<Class<?>> classes = new ArrayList<>(List.of(ThirdLetter.class.getDeclaredClasses()));
+        classes.add(ThirdLetter.class);
+        for (Class<?> c : classes) {
+            int fields = 0;
+            for (Field f : c.getDeclaredFields()) if (!Modifier.isStatic(f.getModifiers())) fields++;
+            checks.holds(c.getSimpleName() + " has " + fields, fields <= 20);
+        }
     }
 
     /** All calls of a run live in one room: rows are made with their object, never by a call. */

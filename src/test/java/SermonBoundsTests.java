@@ -534,6 +534,8 @@ public final class SermonBoundsTests {
             "not 2 0;not 2 1;not 2 2");
         reads(x, ".", 3, 7, 0);
         reads(x, "..", 0, 0);
+        reads(Checks.told("word 0 a;word 1 b;not 0 0"), "..", 3, 3, 0, 1);
+        reads(Checks.told("word 0 a;word 1 b;not 0 0;not 1 1"), "......", 2, 3, 0, 1, 0, 1, 0, 1);
         for (int pair = 0; pair < 9; pair++) {
             ThirdLetter y = Checks.told("word 0 a;word 1 b;word 2 c;not " + pair / 3 + " " + pair % 3);
             Checks.soundAs(y, "..");
@@ -731,7 +733,7 @@ public final class SermonBoundsTests {
         x.say(4);
         x.keep(0);
         x.amen();
-        x.preach(1);
+        x.preach(0);
         due("kept said", x.back(0), 4);
         hears(x, "abcd");
         due("what is left", x.say(60), 5);

@@ -47,6 +47,7 @@ public final class TextBoundsTests {
         blanksBetween();
         elevenLettersTooMany();
         firstTokenThatCannotStand();
+        namesLetterByLetter();
         anyOtherByteIsAToken();
         endTooSoon();
         tokenTooMany();
@@ -559,12 +560,23 @@ public final class TextBoundsTests {
                 place += line[i].length() + 1;
             }
         }
-        fault(0, "orde 3");
-        fault(0, "orders 3");
-        fault(0, "Order 3");
-        fault(0, "fre");
-        fault(0, "freea");
         fault(6, "order 9;order 8");
+    }
+
+    private static void namesLetterByLetter() {
+        checks.about("each is one of: order, word, not, free, away, here, hoarse, clear, late");
+        for (String[] line : LINES) {
+            String name = line[0];
+            String tail = tailOf(line, 0);
+            fault(NONE, name + tail);
+            fault(0, name + "s" + tail);
+            fault(0, name + name + tail);
+            fault(0, name.toUpperCase() + tail);
+            for (int i = 0; i < name.length(); i++) {
+                fault(0, name.substring(0, i) + "z" + name.substring(i + 1) + tail);
+                fault(0, name.substring(0, i) + name.substring(i + 1) + tail);
+            }
+        }
     }
 
     private static String tailOf(String[] line, int i) {
