@@ -54,6 +54,7 @@ public final class TextBoundsTests {
         linesInTheirOrder();
         behindATextAllIsEmpty();
         erasedToNothing();
+        oldBytesAreNotRead();
         faultAtTheLength();
         orderHowManyLines();
         wordWhat();
@@ -684,6 +685,27 @@ public final class TextBoundsTests {
         due("nothing of the old", x.order(), 1);
     }
 
+    private static void oldBytesAreNotRead() {
+        checks.about("THE TEXT is empty then: what stood behind its end before is not read");
+        for (String[] line : LINES) {
+            String whole = String.join(" ", line);
+            for (int cut = 0; cut < whole.length(); cut++) {
+                String part = whole.substring(0, cut);
+                ThirdLetter fresh = new ThirdLetter();
+                Checks.write(fresh, part);
+                int want = fresh.fault();
+                ThirdLetter erased = new ThirdLetter();
+                Checks.write(erased, whole + ";zz;zz");
+                erased.erase();
+                Checks.write(erased, part);
+                due("'" + part + "' behind an erased '" + whole + "'", erased.fault(), want);
+                ThirdLetter done = Checks.told(whole, "free;order 3");
+                Checks.write(done, part);
+                due("'" + part + "' behind a done '" + whole + "'", done.fault(), want);
+            }
+        }
+    }
+
     private static void faultAtTheLength() {
         checks.about("4: the place of the FAULT (the byte with which the TOKEN begins, or the length); NONE");
         due("a new object", new ThirdLetter().fault(), 0);
@@ -692,6 +714,8 @@ public final class TextBoundsTests {
         fault(199, "free" + " ".repeat(195) + "x");
         fault(200, "free" + " ".repeat(195) + ";");
         fault(200, " ".repeat(195) + "order");
+        fault(200, " ".repeat(194) + "word 0");
+        fault(200, " ".repeat(194) + "late 0");
         fault(190, " ".repeat(190) + "abcdefghij");
         fault(193, " ".repeat(186) + "word 0 abcdefg", " ".repeat(186) + "word 0 abcdefg");
     }
