@@ -276,7 +276,7 @@ public final class ThirdLetter {
 
         /** The first place from one on whose byte is not between two. */
         int endOfRow(int from, int low, int high) {
-            int place = Math.max(from, 0);
+            int place = from < 0 ? 0 : from;
             while (place < length && bytes[place] >= low && bytes[place] <= high) place++;
             return place;
         }
